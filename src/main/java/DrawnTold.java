@@ -726,6 +726,9 @@ public final class DrawnTold {
 
         /** The sum weighed last is one more to reckon with. */
         void adopt() {
+            if (rank >= MOST_NUMBERS) {
+                return;
+            }
             for (Witness witness : witnesses) {
                 witness.adopt();
             }
@@ -1044,7 +1047,7 @@ public final class DrawnTold {
 
         static void halve(long[] x) {
             for (int i = 0; i < LENGTH - 1; i++) {
-                x[i] = x[i] >> 1 | (x[i + 1] & 1) << SHIFT - 1;
+                x[i] = (x[i] >> 1) | ((x[i + 1] & 1) << (SHIFT - 1));
             }
             x[LENGTH - 1] >>= 1;
         }
@@ -1062,7 +1065,7 @@ public final class DrawnTold {
         static void divideByOdd(long[] x, long[] odd) {
             long inverse = inverseOfOdd(odd[0]);
             for (int i = 0; i < LENGTH; i++) {
-                long digit = x[i] * inverse & MASK;
+                long digit = (x[i] * inverse) & MASK;
                 long borrow = 0;
                 for (int j = 0; i + j < LENGTH; j++) {
                     borrow += x[i + j] - digit * odd[j];
@@ -1077,7 +1080,7 @@ public final class DrawnTold {
         private static long inverseOfOdd(long odd) {
             long inverse = odd;
             for (int step = 0; step < 4; step++) {
-                inverse = inverse * (2 - odd * inverse & MASK) & MASK;
+                inverse = (inverse * ((2 - odd * inverse) & MASK)) & MASK;
             }
             return inverse;
         }

@@ -115,6 +115,32 @@ public final class GreatNumbersTest {
         },
     };
 
+    /** Nine tellings each: the determinant of their products with one another is a multiple of a prime. */
+    private static final int[][][] UPRIGHT = {
+        { // 3 times 2147483629
+            {3, 3, 5, 2, 7, -2, 15, 2},
+            {0, -2, 7, -1, 12, 3, 15, 2},
+            {0, 2, 5, 1, 11, 2, 14, -3},
+            {8, -1, 13, 1, 14, 2, 15, 1},
+            {2, 2, 3, -2, 4, 1, 8, 3},
+            {3, 2, 6, 2, 11, -3, 12, 1},
+            {0, 1, 4, -2, 9, 1, 10, 3},
+            {4, -3, 5, 1, 6, -1, 13, -1},
+            {1, 3, 5, -1, 9, -1, 13, 2},
+        },
+        { // 7 times 2147483579
+            {4, 3, 7, -3, 9, -3, 14, 2},
+            {0, 1, 1, -1, 12, -2, 14, -3},
+            {5, -1, 7, 2, 11, 3, 13, -2},
+            {2, 1, 3, -3, 6, 3, 11, -1},
+            {4, -3, 5, -1, 8, 2, 10, 2},
+            {0, 3, 1, 1, 4, 2, 9, -3},
+            {1, 1, 2, 2, 4, 2, 10, -2},
+            {7, -2, 9, -3, 11, 3, 15, 2},
+            {3, 1, 4, -3, 7, -3, 10, 1},
+        },
+    };
+
     private static int wrong = 0;
 
     public static void main(String[] args) {
@@ -123,6 +149,9 @@ public final class GreatNumbersTest {
             lastIsMade(prime, 0);
             lastIsMade(prime, 1);
             fewer(prime);
+        }
+        for (int i = 0; i < UPRIGHT.length; i++) {
+            upright(i);
         }
         blocks();
         System.out.println(wrong + " answers not as due");
@@ -231,6 +260,24 @@ public final class GreatNumbersTest {
             pair.digest();
             wrong += pair.wrong;
         }
+    }
+
+    /** To one prime there is nothing upright in the ninth, until a tenth comes. */
+    private static void upright(int which) {
+        Pair pair = start("upright " + which);
+        for (int i = 0; i < 9; i++) {
+            tell(pair, 100 * i - 333, UPRIGHT[which][i]);
+        }
+        pair.strain();
+        pair.one("nearest", 4);
+        tell(pair, 77, new int[] {0, 1, 2, 1, 13, 1});
+        check(pair.one("tellings", 0) == 10);
+        pair.strain();
+        for (int number = 0; number < 16; number++) {
+            pair.one("nearest", number);
+        }
+        pair.drag(4, 5, 6, 0);
+        wrong += pair.wrong;
     }
 
     /** The greatest determinant that there is: four blocks of four by four, all factors 3. */

@@ -70,7 +70,10 @@ public final class RandomRunsTest {
     }
 
     private int factor() {
-        return lot.nextInt(30) == 0 ? lot.nextInt(11) - 5 : lot.nextBoolean() ? 1 + lot.nextInt(3) : -1 - lot.nextInt(3);
+        if (lot.nextInt(30) == 0) {
+            return lot.nextInt(11) - 5;
+        }
+        return lot.nextBoolean() ? 1 + lot.nextInt(3) : -1 - lot.nextInt(3);
     }
 
     private void addPoint() {

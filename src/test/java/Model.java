@@ -148,9 +148,19 @@ final class Model {
         return free;
     }
 
+    /** Of all, one by one. */
+    private int[] sorts() {
+        int[] sorts = new int[told.size()];
+        List<Told> free = new ArrayList<>();
+        for (int t = 0; t < sorts.length; t++) {
+            sorts[t] = told.get(t).off ? 3 : sortBehind(free, told.get(t));
+            if (sorts[t] == 0) free.add(told.get(t));
+        }
+        return sorts;
+    }
+
     int sort(int telling) {
-        if (!isTold(telling)) return BAD;
-        return told.get(telling).off ? 3 : sortBehind(newAhead(telling), told.get(telling));
+        return isTold(telling) ? sorts()[telling] : BAD;
     }
 
     int madeOf(int telling) {
@@ -170,8 +180,8 @@ final class Model {
         if (what < 0 || what > 3) return BAD;
         if (what == 3) return 2 * points.size() - newAhead(told.size()).size();
         int many = 0;
-        for (int t = 0; t < told.size(); t++) {
-            if (sort(t) == what) many++;
+        for (int sort : sorts()) {
+            if (sort == what) many++;
         }
         return many;
     }
@@ -420,15 +430,17 @@ final class Model {
             values.add(p[0]);
             values.add(p[1]);
         }
+        int[] sorts = sorts();
         for (int t = 0; t < told.size(); t++) {
             listSum(told.get(t), values);
-            values.add(sort(t));
+            values.add(sorts[t]);
         }
         listSum(asked, values);
-        for (int i = 0; i < barList.size(); i++) {
-            values.add(barList.get(i)[0]);
-            values.add(barList.get(i)[1]);
-            values.add(sortOf(i));
+        List<int[]> newBars = newBars(barList.size());
+        for (int[] bar : barList) {
+            values.add(bar[0]);
+            values.add(bar[1]);
+            values.add(newBars.contains(bar) ? 0 : 1);
         }
         values.add(whole());
         for (int what = 0; what < 3; what++) values.add(sign(what));

@@ -1099,23 +1099,20 @@ public final class DrawnTold {
         final int[] built = new int[MOST_POINTS];
         private final int[] firsts = new int[MOST_BARS];
         private final int[] seconds = new int[MOST_BARS];
+        private final int[] ends = new int[MOST_BARS];
         private final boolean[] tight = new boolean[SETS];
 
         private static int pairOf(int a, int b) {
             return 1 << a | 1 << b;
         }
 
-        private int endsOf(int bar) {
-            return pairOf(firsts[bar], seconds[bar]);
-        }
-
         private boolean isInside(int bar, int set) {
-            return (endsOf(bar) & ~set) == 0;
+            return (ends[bar] & ~set) == 0;
         }
 
         boolean hasBar(int a, int b) {
             for (int i = 0; i < size; i++) {
-                if (endsOf(i) == pairOf(a, b)) {
+                if (ends[i] == pairOf(a, b)) {
                     return true;
                 }
             }
@@ -1128,6 +1125,7 @@ public final class DrawnTold {
             }
             firsts[size] = a;
             seconds[size] = b;
+            ends[size] = pairOf(a, b);
             extra[size] = keeps(a, b);
             size++;
             if (!extra[size - 1]) {
@@ -1216,7 +1214,7 @@ public final class DrawnTold {
         private int newAt(int point, int left) {
             int many = 0;
             for (int i = 0; i < size; i++) {
-                if (!extra[i] && isInside(i, left) && (endsOf(i) & 1 << point) != 0) {
+                if (!extra[i] && isInside(i, left) && (ends[i] & 1 << point) != 0) {
                     many++;
                 }
             }

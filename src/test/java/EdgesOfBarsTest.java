@@ -31,6 +31,7 @@ public final class EdgesOfBarsTest {
         count();
         digest();
         digestOfAll();
+        lastCall();
         Cases.end();
     }
 
@@ -611,6 +612,17 @@ public final class EdgesOfBarsTest {
             }
             values.addAll(List.of(1, 0, 1, 63, 0, 0, 1, 1));
             Cases.due(d.digest(), wrapped(values));
+        });
+    }
+
+    private static void lastCall() {
+        Cases.test("29 the 512th call is answered as the first", () -> {
+            DrawnTold d = new DrawnTold();
+            d.point(0, 0);
+            for (int call = 2; call < 512; call++) {
+                Cases.due("call " + call, d.rough(0, call, -call), 1);
+            }
+            Cases.due("call 512", d.digest(), hash(1, 0, 0, 0, 511, -511, 0, 0, 0, 0, 0, 1, 1));
         });
     }
 

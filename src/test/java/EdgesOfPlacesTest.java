@@ -444,9 +444,15 @@ public final class EdgesOfPlacesTest {
             Cases.test("16 x " + value, () -> dragIs(Cases.withPoints(1), 0, value, 5, 0, value + "/1"));
             Cases.test("16 y " + value, () -> dragIs(Cases.withPoints(1), 0, 5, value, 1, value + "/1"));
         }
-        Cases.test("16 the last point, its last number", () -> {
-            dragIs(Cases.withPoints(8), 7, 1, 2, 15, "2/1");
-        });
+        for (int p = 0; p < 8; p++) {
+            int point = p;
+            Cases.test("16 point " + point + " of 8, x", () -> {
+                dragIs(Cases.withPoints(8), point, -41, 42, 2 * point, "-41/1");
+            });
+            Cases.test("16 point " + point + " of 8, y", () -> {
+                dragIs(Cases.withPoints(8), point, -41, 42, 2 * point + 1, "42/1");
+            });
+        }
         Cases.test("16 the last point, the first number", () -> {
             DrawnTold d = Cases.withPoints(8);
             Cases.tell(d, 3, 0, 1, 15, -2);

@@ -338,6 +338,31 @@ public final class EdgesOfTellingsTest {
             d.takeOff(0, false);
             Cases.due("put back", d.sort(0), 0);
         });
+        Cases.test("5 each term sorts it anew", () -> {
+            DrawnTold d = Cases.withPoints(2);
+            Cases.tell(d, 3, 0, 1);
+            d.telling(3);
+            int[] due = {2, 1, 0, 0, 0};
+            Cases.due("without terms", d.sort(1), due[0]);
+            for (int i = 0; i < 4; i++) {
+                d.term(1, i, 1);
+                Cases.due("behind term " + i, d.sort(1), due[i + 1]);
+            }
+        });
+        Cases.test("5 the first and the fourth term sort the next anew", () -> {
+            DrawnTold d = Cases.withPoints(2);
+            d.telling(3);
+            Cases.tell(d, 4, 0, 1, 1, 1, 2, 1, 3, 1);
+            Cases.tell(d, 4, 0, 1);
+            Cases.due("ahead", d.sort(2), 0);
+            d.term(0, 0, 1);
+            Cases.due("behind the first", d.sort(2), 2);
+            d.term(0, 1, 1);
+            d.term(0, 2, 1);
+            Cases.due("behind the third", d.sort(1), 0);
+            d.term(0, 3, 1);
+            Cases.due("behind the fourth", d.sort(1), 2);
+        });
         Cases.test("5 a term of one ahead sorts those behind anew", () -> {
             DrawnTold d = Cases.withPoints(1);
             Cases.tell(d, 4, 0, 1);

@@ -339,6 +339,16 @@ public final class EdgesOfPlacesTest {
             d.nearest(0);
             Cases.fractionIs(d, "0/1");
         });
+        Cases.test("14 0 is 0 by 1, be 9 to the 16 below it at first", () -> {
+            DrawnTold d = Cases.withPoints(8);
+            for (int i = 0; i < 16; i++) {
+                Cases.tell(d, 0, i, 3);
+            }
+            for (int i = 0; i < 16; i++) {
+                Cases.due("number " + i, d.nearest(i), 1);
+                Cases.fractionIs(d, "0/1");
+            }
+        });
         Cases.test("14 the last number of all", () -> {
             DrawnTold d = Cases.withPoints(8);
             Cases.tell(d, 8, 14, 1, 15, 1);

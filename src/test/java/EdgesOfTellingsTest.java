@@ -1,3 +1,5 @@
+import java.util.function.ToLongFunction;
+
 /** Promises 1 to 9: each boundary that the document names, in a case of its own. */
 public final class EdgesOfTellingsTest {
     private static final int NONE = Cases.NONE, BAD = Cases.BAD, NO = Cases.NO, FULL = Cases.FULL;
@@ -19,6 +21,7 @@ public final class EdgesOfTellingsTest {
         takeOffRefused();
         sortWithoutTerms();
         sortAhead();
+        sortBehindACall();
         sortEdges();
         madeOf();
         madeOfRefused();
@@ -541,6 +544,38 @@ public final class EdgesOfTellingsTest {
             Cases.tell(d, 4, 0, 1);
             d.rough(0, 900, 900);
             Cases.due(d.sort(0), 0);
+        });
+    }
+
+    /** Whatever was asked, and so may have been sorted, before a telling came. */
+    private static void sortBehindACall() {
+        sortBehind("sort", d -> d.sort(0));
+        sortBehind("madeOf", d -> d.madeOf(0));
+        sortBehind("tellings", d -> d.tellings(0));
+        sortBehind("fixed", d -> d.fixed(0));
+        sortBehind("holds", d -> d.holds());
+        sortBehind("nearest", d -> d.nearest(0));
+        sortBehind("strain", d -> d.strain());
+        sortBehind("drag", d -> d.drag(0, 1, 2, 0));
+        sortBehind("count", d -> d.count(1));
+        sortBehind("digest", d -> d.digest());
+    }
+
+    private static void sortBehind(String name, ToLongFunction<DrawnTold> call) {
+        Cases.test("7 told behind a call of " + name, () -> {
+            DrawnTold d = Cases.withPoints(1);
+            Cases.tell(d, 4, 0, 1);
+            call.applyAsLong(d);
+            Cases.due("0 is 5", d.sort(d.telling(5)), 2);
+            call.applyAsLong(d);
+            Cases.due("0 is 0", d.sort(d.telling(0)), 1);
+            call.applyAsLong(d);
+            Cases.due("y is 3", d.sort(Cases.tell(d, 3, 1, 1)), 0);
+            call.applyAsLong(d);
+            Cases.due("x is 5", d.sort(Cases.tell(d, 5, 0, 1)), 2);
+            d.takeOff(0, true);
+            call.applyAsLong(d);
+            Cases.due("x is 5, alone", d.sort(4), 0);
         });
     }
 

@@ -153,14 +153,16 @@ public final class GreatNumbersTest {
         for (int i = 0; i < UPRIGHT.length; i++) {
             upright(i);
         }
-        blocks();
+        for (int factor = 1; factor <= 3; factor++) {
+            blocks(factor);
+        }
         System.out.println(wrong + " answers not as due");
         if (wrong != 0) {
             System.exit(1);
         }
     }
 
-    private static Pair start(String run) {
+    static Pair start(String run) {
         Pair pair = new Pair(run);
         for (int p = 0; p < 8; p++) {
             pair.point(p % 2 == 0 ? 1000 : -1000, p % 3 == 0 ? -1000 : 999 - p);
@@ -168,7 +170,7 @@ public final class GreatNumbersTest {
         return pair;
     }
 
-    private static int tell(Pair pair, int n, int[] terms) {
+    static int tell(Pair pair, int n, int[] terms) {
         int telling = pair.telling(n);
         for (int i = 0; i < terms.length; i += 2) {
             pair.term(telling, terms[i], terms[i + 1]);
@@ -280,14 +282,14 @@ public final class GreatNumbersTest {
         wrong += pair.wrong;
     }
 
-    /** The greatest determinant that there is: four blocks of four by four, all factors 3. */
-    private static void blocks() {
-        Pair pair = start("blocks");
+    /** Four blocks of four by four; with all factors 3 the greatest determinant that there is, with 2 halved most. */
+    private static void blocks(int factor) {
+        Pair pair = start("blocks of " + factor);
         for (int i = 0; i < 16; i++) {
             int[] terms = new int[8];
             for (int j = 0; j < 4; j++) {
                 terms[2 * j] = (i / 4 + 4 * j) % 16;
-                terms[2 * j + 1] = Integer.bitCount(i % 4 & j) % 2 == 0 ? 3 : -3;
+                terms[2 * j + 1] = Integer.bitCount(i % 4 & j) % 2 == 0 ? factor : -factor;
             }
             check(pair.one("sort", tell(pair, i % 3 == 0 ? 2000 : -1999, terms)) == 0);
             pair.strain();

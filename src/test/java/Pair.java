@@ -1,5 +1,6 @@
 /** DrawnTold and the model side by side: each call is made of both, and their answers compared. */
 final class Pair {
+    private static final int MOST_CALLS = 512;
     private final DrawnTold drawn = new DrawnTold();
     private final Model model = new Model();
     private final String run;
@@ -13,6 +14,10 @@ final class Pair {
 
     private int same(String call, long got, long want) {
         made++;
+        if (made == MOST_CALLS + 1) {
+            wrong++;
+            System.out.println(run + ": more calls than the document promises anything about");
+        }
         calls.append(call).append("; ");
         if (got != want) {
             wrong++;
